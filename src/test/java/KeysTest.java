@@ -9,7 +9,7 @@ public final class KeysTest {
         for (int c = 0; c < 2; c++) {
             keysByHand(c);
             for (int d = 1; d <= 6; d++) {
-                QuadKeys q = Check.laid("w" + d + "," + c + ";");
+                Many q = new Many("w" + d + "," + c + ";");
                 everyKeyOnce(q, d);
                 tiles(q, d);
                 beside(q, d);
@@ -23,31 +23,31 @@ public final class KeysTest {
     }
 
     private static void keysByHand(int c) {
-        QuadKeys q = Check.laid("w2," + c + ";");
+        Many q = new Many("w2," + c + ";");
         for (int i = 0; i < 16; i++) {
-            Check.due("key by hand", q.key(i % 4, i / 4), KEYS[c][i]);
+            Check.due("key by hand", q.next().key(i % 4, i / 4), KEYS[c][i]);
         }
     }
 
-    private static void everyKeyOnce(QuadKeys q, int d) {
+    private static void everyKeyOnce(Many q, int d) {
         int side = 1 << d;
         boolean[] seen = new boolean[side * side];
         for (int i = 0; i < side * side; i++) {
-            int k = q.key(i % side, i / side);
+            int k = q.next().key(i % side, i / side);
             Check.due("key in range", k >= 0 && k < seen.length && !seen[k] ? 1 : 0, 1);
             if (k >= 0 && k < seen.length) {
                 seen[k] = true;
             }
-            Check.due("cell x", q.cell(k, 0), i % side);
-            Check.due("cell y", q.cell(k, 1), i / side);
+            Check.due("cell x", q.next().cell(k, 0), i % side);
+            Check.due("cell y", q.next().cell(k, 1), i / side);
         }
-        Check.due("key beyond x", q.key(side, 0), QuadKeys.BAD);
-        Check.due("key beyond y", q.key(0, side), QuadKeys.BAD);
-        Check.due("cell beyond", q.cell(side * side, 0), QuadKeys.BAD);
+        Check.due("key beyond x", q.next().key(side, 0), QuadKeys.BAD);
+        Check.due("key beyond y", q.next().key(0, side), QuadKeys.BAD);
+        Check.due("cell beyond", q.next().cell(side * side, 0), QuadKeys.BAD);
     }
 
     /** A tile's corner, side and keys must be those of the cells between its first and last key. */
-    private static void tiles(QuadKeys q, int d) {
+    private static void tiles(Many q, int d) {
         for (int l = 0; l <= d; l++) {
             int size = 1 << (2 * (d - l));
             for (int k = 0; k < 1 << (2 * l); k++) {
@@ -55,22 +55,22 @@ public final class KeysTest {
                 int y = 64;
                 int far = -1;
                 for (int i = k * size; i < (k + 1) * size; i++) {
-                    x = Math.min(x, q.cell(i, 0));
-                    y = Math.min(y, q.cell(i, 1));
-                    far = Math.max(far, q.cell(i, 0));
+                    x = Math.min(x, q.next().cell(i, 0));
+                    y = Math.min(y, q.next().cell(i, 1));
+                    far = Math.max(far, q.next().cell(i, 0));
                 }
-                Check.due("tile x", q.tile(l, k, 0), x);
-                Check.due("tile y", q.tile(l, k, 1), y);
-                Check.due("tile side", q.tile(l, k, 2), far - x + 1);
-                Check.due("tile first", q.tile(l, k, 3), k * size);
-                Check.due("tile last", q.tile(l, k, 4), (k + 1) * size - 1);
+                Check.due("tile x", q.next().tile(l, k, 0), x);
+                Check.due("tile y", q.next().tile(l, k, 1), y);
+                Check.due("tile side", q.next().tile(l, k, 2), far - x + 1);
+                Check.due("tile first", q.next().tile(l, k, 3), k * size);
+                Check.due("tile last", q.next().tile(l, k, 4), (k + 1) * size - 1);
             }
-            Check.due("tile beyond", q.tile(l, 1 << (2 * l), 0), QuadKeys.BAD);
+            Check.due("tile beyond", q.next().tile(l, 1 << (2 * l), 0), QuadKeys.BAD);
         }
-        Check.due("tile too deep", q.tile(d + 1, 0, 0), QuadKeys.BAD);
+        Check.due("tile too deep", q.next().tile(d + 1, 0, 0), QuadKeys.BAD);
     }
 
-    private static void beside(QuadKeys q, int d) {
+    private static void beside(Many q, int d) {
         int side = 1 << d;
         for (int l = 0; l <= d; l++) {
             int s = side >> l;
@@ -78,24 +78,24 @@ public final class KeysTest {
                 for (int i = 0; i < 9; i++) {
                     int dx = i % 3 - 1;
                     int dy = i / 3 - 1;
-                    int x = q.tile(l, k, 0) + dx * s;
-                    int y = q.tile(l, k, 1) + dy * s;
+                    int x = q.next().tile(l, k, 0) + dx * s;
+                    int y = q.next().tile(l, k, 1) + dy * s;
                     boolean there = x >= 0 && x < side && y >= 0 && y < side;
-                    int want = i == 4 ? QuadKeys.BAD : there ? q.key(x, y) / (s * s) : QuadKeys.NONE;
-                    Check.due("beside", q.beside(l, k, dx, dy), want);
+                    int want = i == 4 ? QuadKeys.BAD : there ? q.next().key(x, y) / (s * s) : QuadKeys.NONE;
+                    Check.due("beside", q.next().beside(l, k, dx, dy), want);
                 }
             }
         }
     }
 
-    private static void leaps(QuadKeys q, int d, int c) {
+    private static void leaps(Many q, int d, int c) {
         int sum = 0;
         for (int k = 0; k + 1 < 1 << (2 * d); k++) {
-            int far = Math.abs(q.cell(k, 0) - q.cell(k + 1, 0)) + Math.abs(q.cell(k, 1) - q.cell(k + 1, 1));
+            int far = Math.abs(q.next().cell(k, 0) - q.next().cell(k + 1, 0)) + Math.abs(q.next().cell(k, 1) - q.next().cell(k + 1, 1));
             sum += far == 1 ? 0 : 1;
         }
-        Check.due("leaps", q.leaps(), sum);
-        Check.due("leaps known", q.leaps(), c == 1 ? 0 : (1L << (2 * d - 1)) - 1);
+        Check.due("leaps", q.next().leaps(), sum);
+        Check.due("leaps known", q.next().leaps(), c == 1 ? 0 : (1L << (2 * d - 1)) - 1);
     }
 
     private static void tileCounts() {
@@ -149,15 +149,15 @@ public final class KeysTest {
     }
 
     private static void common() {
-        QuadKeys q = Check.laid("w3,1;");
+        Many q = new Many("w3,1;");
         for (int a = 0; a < 64; a++) {
             for (int b = 0; b < 64; b++) {
                 int level = 0;
                 for (int l = 1; l <= 3; l++) {
                     int size = 1 << (2 * (3 - l));
-                    level = q.key(a % 8, a / 8) / size == q.key(b % 8, b / 8) / size ? l : level;
+                    level = q.next().key(a % 8, a / 8) / size == q.next().key(b % 8, b / 8) / size ? l : level;
                 }
-                Check.due("common", q.common(a % 8, a / 8, b % 8, b / 8), level);
+                Check.due("common", q.next().common(a % 8, a / 8, b % 8, b / 8), level);
             }
         }
     }
