@@ -1042,11 +1042,11 @@ public final class QuadKeys {
 
         /** The level (what = 0) or key of the i-th tile, or how many tiles there are (i = -1). */
         int tileOf(Plan plan, KeySet keys, int i, int what) {
+            int size = plan.tileSize(plan.hi);
             int ahead = 0;
-            int step = 1;
-            for (int first = 0; first < plan.tileSize(0); first += step) {
-                int level = widestAt(plan, keys, first);
-                step = plan.tileSize(level == NONE ? plan.hi : level);
+            int behindLast = 0;
+            for (int first = 0; first < plan.tileSize(0); first += size) {
+                int level = first < behindLast ? NONE : widestAt(plan, keys, first);
                 if (level == NONE) {
                     continue;
                 }
@@ -1054,6 +1054,7 @@ public final class QuadKeys {
                     return what == 0 ? level : plan.tileAround(first, level);
                 }
                 ahead++;
+                behindLast = first + plan.tileSize(level);
             }
             return i == -1 ? ahead : NONE;
         }

@@ -13,6 +13,9 @@ public final class CoversTest {
         wholeWorld();
         checkerboard();
         spansByHand();
+        moreSpansThanJoined();
+        farQuarters();
+        firstAsked();
         wrongNumbers();
         bestByHand();
         Random random = new Random(20261118);
@@ -161,6 +164,53 @@ public final class CoversTest {
         Check.due("wider spans", q.span(0, 1, 1), 27);
         Check.due("inner spans", q.span(1, -1, 0), 1);
         Check.due("inner span", q.span(1, 0, 1), 7);
+    }
+
+    /** Two columns: 128 spans of a key each, 112 gaps of 1 in rows of 7, and 15 wider ones between. */
+    private static void moreSpansThanJoined() {
+        QuadKeys q = Check.laid("w6,0;+b0,0,0,63;+b2,0,2,63;");
+        Check.due("spans", q.span(0, -1, 0), 128);
+        int[] goals = {99, 98, 17, 16, 15, 9, 8, 7, 4, 3, 2, 1};
+        int[] keys = {29, 30, 111, 112, 129, 231, 248, 329, 572, 909, 1246, 2607};
+        for (int i = 0; i < goals.length; i++) {
+            Check.due("joined to " + goals[i], q.joined(0, goals[i]), keys[i]);
+            Check.due("joined within to " + goals[i], q.joined(1, goals[i]), keys[i]);
+        }
+    }
+
+    /** Tiles of 64 cells and more that are not the first ones. */
+    private static void farQuarters() {
+        QuadKeys q = Check.laid("w6,0;+b48,56,63,63;+b63,0,63,0;");
+        coverIs(q, "far", 0, 6, 1365, 3, 62, 3, 63);
+        Check.due("cells of a quarter", q.tile(1, 3, 5), 128);
+        Check.due("cells of a quarter", q.tile(1, 1, 5), 1);
+        Check.due("cells of a quarter", q.tile(1, 0, 5), 0);
+        Check.due("cells of a quarter's quarter", q.tile(2, 15, 5), 128);
+        Check.due("cells of a quarter's quarter", q.tile(2, 14, 5), 0);
+        Check.due("cells of a small tile", q.tile(3, 62, 5), 64);
+        Check.due("cells of a small tile", q.tile(3, 61, 5), 0);
+        int[] best = {4096 - 129, 128, 0};
+        for (int m = 1; m <= 3; m++) {
+            Check.due("best " + m, q.best(m), best[m - 1]);
+        }
+    }
+
+    /** Each answer is found also when nothing was asked ahead of it. */
+    private static void firstAsked() {
+        Check.due("cover", new QuadKeys().cover(1, -1, 0), 44);
+        Check.due("span", new QuadKeys().span(0, -1, 0), 17);
+        Check.due("joined", new QuadKeys().joined(0, 1), 141);
+        Check.due("best", new QuadKeys().best(5), 132);
+        Check.due("tile", new QuadKeys().tile(1, 1, 5), 7);
+        Check.due("search", new QuadKeys().search(0), 4);
+        QuadKeys q = new QuadKeys();
+        q.levels(0, 0);
+        Check.due("rest", q.rest(0), 176);
+        q.levels(0, 3);
+        Check.due("rest", q.rest(1), 36);
+        Check.due("best", q.best(5), 132);
+        q.disc(1, 0, 0, 63);
+        Check.due("best behind a part", q.best(5), 0);
     }
 
     private static void wrongNumbers() {

@@ -91,8 +91,9 @@ public final class KeysTest {
     private static void leaps(Many q, int d, int c) {
         int sum = 0;
         for (int k = 0; k + 1 < 1 << (2 * d); k++) {
-            int far = Math.abs(q.next().cell(k, 0) - q.next().cell(k + 1, 0)) + Math.abs(q.next().cell(k, 1) - q.next().cell(k + 1, 1));
-            sum += far == 1 ? 0 : 1;
+            int dx = q.next().cell(k, 0) - q.next().cell(k + 1, 0);
+            int dy = q.next().cell(k, 1) - q.next().cell(k + 1, 1);
+            sum += Math.abs(dx) + Math.abs(dy) == 1 ? 0 : 1;
         }
         Check.due("leaps", q.next().leaps(), sum);
         Check.due("leaps known", q.next().leaps(), c == 1 ? 0 : (1L << (2 * d - 1)) - 1);

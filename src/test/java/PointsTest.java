@@ -68,6 +68,9 @@ public final class PointsTest {
         q.drop(0);
         Check.due("none seen", q.search(0), 0);
         Check.due("none found", q.search(1), 0);
+        q.box(1, 7, 7, 7, 7);
+        Check.due("point 0 seen", q.search(0), 7);
+        Check.due("point 0 found", q.search(1), 1);
         int[] wrong = {-1, 2, Integer.MIN_VALUE, Integer.MAX_VALUE};
         for (int n : wrong) {
             Check.due("search what", q.search(n), QuadKeys.BAD);

@@ -201,6 +201,14 @@ public final class ToldTest {
         Check.due("laid: in", q.in(1, 2), 1);
         Check.due("laid: taken off", q.in(2, 3), 0);
         Check.due("laid: at", q.at(1, 1), 30);
+        q.wipe();
+        Check.tell(q, "w1,0;+b0,0,1,1;");
+        Check.due("lay a smaller one", q.lay(), 2);
+        Check.due("its cells", q.count(6), 4);
+        Check.due("its cover", q.cover(0, -1, 0), 1);
+        Check.due("its best", q.best(1), 0);
+        Check.tell(q, "w5,0;+b1,2,3,4;-d2,3,1;p7,8;p31,30;");
+        Check.due("lay the first", q.lay(), 32);
         q.box(1, 31, 31, 31, 31);
         q.levels(3, 3);
         q.curve(1);
@@ -342,6 +350,10 @@ public final class ToldTest {
         Check.due("too many", q.point(0, 0), QuadKeys.FULL);
         Check.due("BAD ahead of FULL", q.point(4, 0), QuadKeys.BAD);
         Check.due("count", q.count(5), 40);
+        Check.due("lift the first of 40", q.lift(0), 39);
+        Check.due("x of the last", q.at(38, 0), 3);
+        Check.due("y of the last", q.at(38, 1), 1);
+        Check.due("point again", q.point(2, 2), 39);
     }
 
     private static void lift() {
